@@ -80,7 +80,7 @@ public final class FaultFinder {
         }
         findings.forget();
         int part = parts.add(kind, hasY ? told % 10 : 0, wire, hasX ? x : NONE, hasY ? y : NONE);
-        parts.work(part, wires.range[wire]);
+        parts.layWork(part, wires.range[wire]);
         wires.driver[wire] = part;
         return part;
     }
@@ -97,7 +97,7 @@ public final class FaultFinder {
         }
         int before = parts.table[part * TABLE + at];
         parts.table[part * TABLE + at] = v;
-        parts.work(part, wires.range[parts.drives[part]]);
+        parts.layWork(part, wires.range[parts.drives[part]]);
         findings.forget();
         return before;
     }
@@ -599,7 +599,7 @@ public final class FaultFinder {
         }
 
         /** Lays out anew what a part makes of its inputs. */
-        void work(int part, int range) {
+        void layWork(int part, int range) {
             if (range < 1) {
                 return;
             }

@@ -179,7 +179,8 @@ public final class OracleRuns {
 
         private int set() {
             int known = (1 << oracle.parts.size()) - 1;
-            return dice.nextInt(8) == 0 ? odd(0, 127) : dice.nextInt(128) & known & ~(dice.nextBoolean() ? oracle.meters() : 0);
+            int spared = dice.nextBoolean() ? oracle.meters() : 0;
+            return dice.nextInt(8) == 0 ? odd(0, 127) : dice.nextInt(128) & known & ~spared;
         }
 
         private void call(String name, int... a) {
