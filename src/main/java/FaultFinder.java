@@ -66,12 +66,14 @@ public final class FaultFinder {
 
     public int part(int told, int wire, int x, int y) {
         int kind = told / 10;
-        boolean hasX = kind != SOURCE;
+        // Only a KIND has inputs: of a KIND that there isn't, x and y don't matter.
+        boolean isKind = told >= 0 && kind <= METER;
+        boolean hasX = isKind && kind != SOURCE;
         boolean hasY = hasX && kind != METER;
         if (!isWire(wire) || (hasX && !isWire(x)) || (hasY && !isWire(y))) {
             return refuse(BEYOND);
         }
-        boolean known = told >= 0 && kind <= METER && (!hasY || told % 10 <= 5);
+        boolean known = isKind && (!hasY || told % 10 <= 5);
         if (!known || (hasX && x >= wire) || (hasY && y >= wire) || wires.driver[wire] != NONE) {
             return refuse(NO);
         }

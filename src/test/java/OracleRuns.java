@@ -404,9 +404,9 @@ public final class OracleRuns {
             boolean source = told >= 30 && told <= 39;
             boolean meter = told >= 40 && told <= 49;
             if (noWire(wire)) return -3;
+            if (told < 0 || told >= 50) return -7;
             if (!source && noWire(x)) return -3;
             if (!source && !meter && noWire(y)) return -3;
-            if (told < 0 || told >= 50) return -7;
             if (!source && !meter && told % 10 > 5) return -7;
             if (!source && x >= wire) return -7;
             if (!source && !meter && y >= wire) return -7;

@@ -137,7 +137,18 @@ public final class PromiseTests {
         due("y below", x.part(0, 1, 0, -1), BEYOND);
         due("x of a METER beyond", x.part(40, 1, 6, 0), BEYOND);
         due("a SOURCE's wire beyond", x.part(30, 6, 0, 0), BEYOND);
-        due("BEYOND ahead of NO", x.part(99, 1, 0, 6), BEYOND);
+        due("x beyond ahead of no WORK", x.part(6, 1, 6, 0), BEYOND);
+        due("y beyond ahead of no WORK", x.part(19, 1, 0, 6), BEYOND);
+        due("y beyond ahead of x not lesser", x.part(0, 1, 1, 6), BEYOND);
+        due("a wire beyond ahead of no KIND", x.part(-1, 6, 0, 0), BEYOND);
+        due("a wire below ahead of no KIND", x.part(50, -1, 0, 0), BEYOND);
+        for (int told : new int[] {-1, -9, -10, -30, -31, -40, 50, 55, 59, 99, MOST, LEAST}) {
+            due("no KIND, x beyond", x.part(told, 1, 6, 0), NO);
+            due("no KIND, y below", x.part(told, 1, 0, -1), NO);
+            due("no KIND, both beyond", x.part(told, 0, LEAST, MOST), NO);
+        }
+        due("refused by NO", x.status(NO), 36);
+        due("refused by BEYOND", x.status(BEYOND), 11);
         due("no KIND", x.part(50, 1, 0, 0), NO);
         due("told MOST", x.part(MOST, 1, 0, 0), NO);
         due("told -1", x.part(-1, 1, 0, 0), NO);
