@@ -56,7 +56,10 @@ public final class OracleRuns {
                 call("wire", 2 + dice.nextInt(2));
             }
             for (int w = wires - 1; w >= inputs; w--) {
-                drive(w);
+                // A wire left to itself may be driven later, when something has been found already.
+                if (dice.nextInt(8) != 0) {
+                    drive(w);
+                }
             }
             for (int i = 0; i < 30; i++) {
                 shape();
@@ -129,7 +132,7 @@ public final class OracleRuns {
         }
 
         private void ask() {
-            int stories = Math.max(1, finder.stories());
+            int stories = Math.max(1, oracle.theStories().size());
             switch (dice.nextInt(24)) {
                 case 0: call("look", odd(0, 6), odd(0, 7)); break;
                 case 1: call("count", odd(0, 5), odd(0, 13)); break;
@@ -141,7 +144,7 @@ public final class OracleRuns {
                 case 9: call("likely"); break;
                 case 10: call("chance", odd(0, 6), dice.nextInt(2)); break;
                 case 11: call("quarrels"); break;
-                case 12: call("quarrel", odd(0, Math.max(0, finder.quarrels() - 1))); break;
+                case 12: call("quarrel", odd(0, Math.max(0, oracle.theQuarrels().size() - 1))); break;
                 case 13: call("judge", set()); break;
                 case 14: case 15: call("values", tick(), wire(), odd(0, stories - 1)); break;
                 case 16: call("worth", tick(), wire()); break;
