@@ -134,6 +134,7 @@ public final class BoundaryTests {
         wireNumbers();
         ranges();
         partNumbers();
+        partsInAnyOrder();
         drivenOnce();
         lesserInputs();
         inputs();
@@ -214,6 +215,37 @@ public final class BoundaryTests {
         due("chance(6, false)", f.chance(6, false), 1);
         due("chance(7, true)", f.chance(7, true), 0);
         due("agrees(128)", f.agrees(128), BEYOND);
+    }
+
+    private static void partsInAnyOrder() {
+        says("PARTS as they come, on whatever WIRES");
+        for (int turn = 0; turn < 256; turn++) {
+            int[] order = {turn & 3, turn >> 2 & 3, turn >> 4 & 3, turn >> 6};
+            if ((1 << order[0] | 1 << order[1] | 1 << order[2] | 1 << order[3]) == 15) {
+                inOrder(order);
+            }
+        }
+    }
+
+    /** A chain on wires 1 .. 4, each of them 1 more than the one ahead, whose parts come in some order. */
+    private static void inOrder(int[] order) {
+        FaultFinder f = wires(6, 3);
+        f.part(30, 0, 0, 0);
+        f.table(0, 0, 1);
+        for (int p = 0; p < 4; p++) {
+            f.part(15, 1 + order[p], order[p], order[p]);
+            for (int a = 0; a < 3; a++) {
+                f.table(1 + p, 4 * a, (a + 1) % 3);
+            }
+        }
+        for (int w = 0; w <= 4; w++) {
+            due("due at wire " + w, f.due(0, w), (1 + w) % 3);
+        }
+        f.see(0, 4, 0);
+        for (int p = 0; p < 4; p++) {
+            int w = 1 + order[p];
+            due("0 from wire " + w + " on, 1 more at each", f.agrees(2 << p), (4 - w) % 3 == 0 ? 1 : 0);
+        }
     }
 
     private static void drivenOnce() {
@@ -351,6 +383,7 @@ public final class BoundaryTests {
         streamWays();
         twoStreams();
         whatTwoStreamsOwe();
+        whatBrokenOnesHandOn();
         streamReads();
         meterOff();
         meterGives();
@@ -500,14 +533,48 @@ public final class BoundaryTests {
         }
     }
 
+    private static void whatBrokenOnesHandOn() {
+        says("such that in each TICK the WIRES have just the numbers that were seen");
+        int[][] turns = {{0, 1, 2}, {0, 2, 1}, {1, 0, 2}, {1, 2, 0}, {2, 0, 1}, {2, 1, 0}};
+        for (int[] turn : turns) {
+            handOn(turn, 3, 4);
+            handOn(turn, 4, 3);
+        }
+    }
+
+    /** Two PLAIN parts on wires 1 and 2, each with a STREAM behind it that turns the numbers round. */
+    private static void handOn(int[] turn, int behind1, int behind2) {
+        FaultFinder f = wires(5, 3);
+        f.ticks(2);
+        f.part(0, 1, 0, 0);
+        f.part(0, 2, 0, 0);
+        for (int p = 2; p < 4; p++) {
+            int reads = p + 1 == behind1 ? 1 : 2;
+            f.part(25, p + 1, reads, reads);
+            for (int a = 0; a < 3; a++) {
+                f.table(p, 4 * a, turn[a]);
+            }
+        }
+        for (int seen = 0; seen < 9; seen++) {
+            f.see(1, behind1, seen % 3);
+            f.see(1, behind2, seen / 3);
+            due("both broken", f.agrees(3), 1);
+            due("the first broken", f.agrees(1), seen / 3 == turn[0] ? 1 : 0);
+            due("the second", f.agrees(2), seen % 3 == turn[0] ? 1 : 0);
+            due("the STREAMS sound", f.judge(12), 0);
+            f.unsee();
+            f.unsee();
+        }
+    }
+
     private static void streamReads() {
         says("of the inputs of the TICK before");
         for (int x = 0; x < 2; x++) {
-            FaultFinder f = wires(3, 3);
+            FaultFinder f = wires(4, 3);
             f.ticks(2);
             f.part(0, 1, 0, 0);
-            f.part(22, 2, x, 1 - x);
-            f.see(1, 2, 2);
+            f.part(22, 3, x, 1 - x);
+            f.see(1, 3, 2);
             due("what it reads is broken", f.story(0), 1);
             due("one story", f.stories(), 1);
             due("both can't be sound", f.quarrel(0), 3);

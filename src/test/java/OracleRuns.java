@@ -1,4 +1,5 @@
 import java.util.ArrayList;
+import java.util.Collections;
 import java.util.HashSet;
 import java.util.List;
 import java.util.Random;
@@ -55,7 +56,12 @@ public final class OracleRuns {
             for (int w = 0; w < wires; w++) {
                 call("wire", 2 + dice.nextInt(2));
             }
-            for (int w = wires - 1; w >= inputs; w--) {
+            List<Integer> driven = new ArrayList<>();
+            for (int w = inputs; w < wires; w++) {
+                driven.add(w);
+            }
+            Collections.shuffle(driven, dice);
+            for (int w : driven) {
                 // A wire left to itself may be driven later, when something has been found already.
                 if (dice.nextInt(8) != 0) {
                     drive(w);

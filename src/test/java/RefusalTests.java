@@ -108,8 +108,9 @@ public final class RefusalTests {
         }
 
         /**
-         * Wires 0 .. 6, of which 0 and 6 are inputs; on wires 1 .. 5 a PLAIN part, a KNOWN one, a STREAM, a SOURCE that is
-         * told to be sound, a METER. Two ticks, two looks, two stories (1 and 2), one quarrel (3), a row of all seven.
+         * Wires 0 .. 6, of which 0 and 6 are inputs; on wires 1 .. 5 a PLAIN part, a KNOWN one, a STREAM, a SOURCE that
+         * is told to be sound, a METER. Two ticks, two looks, two stories (1 and 2), one quarrel (3),
+         * a row of all seven.
          */
         private static void layBusy(Run run) {
             int[] ranges = {3, 3, 3, 2, 3, 3, 2};
@@ -147,7 +148,7 @@ public final class RefusalTests {
             run.ask("part", 21, 2, 1, 0);
         }
 
-        /** As many wires, parts, streams and ticks as there can be, and looks at the first 16 places: part 2 is broken. */
+        /** As many wires, parts, streams and ticks as can be, and looks at the first 16 places: part 2 is broken. */
         private static void layCrowd(Run run) {
             for (int w = 0; w < 14; w++) {
                 run.ask("wire", 3);
@@ -284,7 +285,8 @@ public final class RefusalTests {
         hold(got == answer, text(name, a) + " of " + machine + " answered " + got + ", due is " + answer);
         for (int s = FULL; s <= MISSING; s++) {
             long more = run.ask("status", s) - before[-s];
-            hold(more == (s == by ? 1 : 0), "status(" + s + ") grew by " + more + " at " + text(name, a) + " of " + machine);
+            hold(more == (s == by ? 1 : 0),
+                    "status(" + s + ") grew by " + more + " at " + text(name, a) + " of " + machine);
         }
     }
 
