@@ -536,14 +536,16 @@ public final class BoundaryTests {
     private static void whatBrokenOnesHandOn() {
         says("such that in each TICK the WIRES have just the numbers that were seen");
         int[][] turns = {{0, 1, 2}, {0, 2, 1}, {1, 0, 2}, {1, 2, 0}, {2, 0, 1}, {2, 1, 0}};
-        for (int[] turn : turns) {
-            handOn(turn, 3, 4);
-            handOn(turn, 4, 3);
+        for (int[] turn1 : turns) {
+            for (int[] turn2 : turns) {
+                handOn(turn1, turn2, 3, 4);
+                handOn(turn1, turn2, 4, 3);
+            }
         }
     }
 
     /** Two PLAIN parts on wires 1 and 2, each with a STREAM behind it that turns the numbers round. */
-    private static void handOn(int[] turn, int behind1, int behind2) {
+    private static void handOn(int[] turn1, int[] turn2, int behind1, int behind2) {
         FaultFinder f = wires(5, 3);
         f.ticks(2);
         f.part(0, 1, 0, 0);
@@ -552,15 +554,15 @@ public final class BoundaryTests {
             int reads = p + 1 == behind1 ? 1 : 2;
             f.part(25, p + 1, reads, reads);
             for (int a = 0; a < 3; a++) {
-                f.table(p, 4 * a, turn[a]);
+                f.table(p, 4 * a, reads == 1 ? turn1[a] : turn2[a]);
             }
         }
         for (int seen = 0; seen < 9; seen++) {
             f.see(1, behind1, seen % 3);
             f.see(1, behind2, seen / 3);
             due("both broken", f.agrees(3), 1);
-            due("the first broken", f.agrees(1), seen / 3 == turn[0] ? 1 : 0);
-            due("the second", f.agrees(2), seen % 3 == turn[0] ? 1 : 0);
+            due("the first broken", f.agrees(1), seen / 3 == turn2[0] ? 1 : 0);
+            due("the second", f.agrees(2), seen % 3 == turn1[0] ? 1 : 0);
             due("the STREAMS sound", f.judge(12), 0);
             f.unsee();
             f.unsee();
@@ -1021,6 +1023,7 @@ public final class BoundaryTests {
         f.see(0, 1, 0);
         due("all have it: 1", f.chance(1, false), 1);
         due("all have it: 1", f.chance(1, true), 1);
+        nothingInCommon();
         says("The STORY of the greatest WEIGHT (its place), of these the first");
         f.unsee();
         due("alike", f.likely(), 0);
@@ -1028,6 +1031,22 @@ public final class BoundaryTests {
         due("the second", f.likely(), 1);
         f.odds(0, 7);
         due("the first", f.likely(), 0);
+    }
+
+    private static void nothingInCommon() {
+        FaultFinder one = sources(1);
+        one.see(0, 0, 1);
+        due("1 of 1: 1", one.chance(0, false), 1);
+        due("1 of 1: 1", one.chance(0, true), 1);
+        FaultFinder two = wires(3, 3);
+        two.part(0, 1, 0, 0);
+        two.part(0, 2, 1, 1);
+        two.odds(1, 9);
+        two.see(0, 2, 1);
+        due("1 * 1 of 82: 1", two.chance(0, false), 1);
+        due("1 * 1 of 82: 82", two.chance(0, true), 82);
+        due("9 * 9 of 82: 81", two.chance(1, false), 81);
+        due("9 * 9 of 82: 82", two.chance(1, true), 82);
     }
 
     // ---- values, worth, next, apart
